@@ -151,9 +151,7 @@ public final class RopeScale {
     }
 
     private boolean canBeTried(int what) {
-        return isWithin(what, 0, 4)
-            || isWithin(what, TRIED_WEIGHT, TRIED_WEIGHT + WALKERS - 1) && now.knows(what - TRIED_WEIGHT)
-            || isWithin(what, TRIED_HURT, TRIED_HURT + WALKERS - 1) && now.knows(what - TRIED_HURT);
+        return isWithin(what, 0, 4) || now.knows(what - TRIED_WEIGHT) || now.knows(what - TRIED_HURT);
     }
 
     public int walkerIs(int p, int what) {
@@ -403,7 +401,7 @@ public final class RopeScale {
         }
 
         int at(int place) {
-            return isWithin(place, 0, length - 1) ? bytes[place] : NONE;
+            return place >= 0 && place < length ? bytes[place] : NONE;
         }
 
         void clear() {
@@ -435,15 +433,12 @@ public final class RopeScale {
         void start(int n) {
             end = n;
             fault = 0;
-            goTo(0);
+            place = -1;
+            next();
         }
 
         void next() {
-            goTo(place + 1);
-        }
-
-        private void goTo(int where) {
-            place = Math.min(where, end);
+            place = Math.min(place + 1, end);
             sign = place < end ? tape.at(place) : NONE;
         }
 
@@ -1173,14 +1168,14 @@ public final class RopeScale {
             for (int hour = 0; hour < most; hour++) {
                 for (int p = 0; p < WALKERS; p++) {
                     if (has(walk.told, p)) {
-                        look(walk, law, p);
+                        visit(walk, law, p);
                     }
                 }
                 walk.hour++;
             }
         }
 
-        private void look(Walk walk, Law law, int p) {
+        private void visit(Walk walk, Law law, int p) {
             law.look(walk, p);
             int more = Math.max(0, law.say('w', 99));
             int less = Math.max(0, law.say('l', 99));
@@ -1277,7 +1272,7 @@ public final class RopeScale {
             int sets = 1 << Integer.bitCount(bits);
             int set = 0;
             for (int k = 0; k < sets; k++) {
-                if (Integer.bitCount(set) == size && Math.abs(sum(set) - weight) <= tolerance) {
+                if (Math.abs(sum(set) - weight) <= tolerance && Integer.bitCount(set) == size) {
                     found++;
                 }
                 set = setAfter(set, bits);
@@ -1409,7 +1404,7 @@ public final class RopeScale {
         static final int MOST_STONES = 8;
         static final int HEAVIEST_SUM = 2040;
         static final int SEESAW_PLACES = 5;
-        static final int HEAVIEST_TURN = 255 * (5 + 4 + 3 + 2 + 1);
+        static final int HEAVIEST_TURN = 255 * SEESAW_PLACES * SEESAW_PLACES;
         static final int LONGEST_ROW = 16;
 
         private final int[] weight = new int[LONGEST_ROW];

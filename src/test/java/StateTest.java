@@ -86,7 +86,8 @@ public final class StateTest {
         Due.is("too long orders", x.orders(121), -1);
         Due.is("too short orders", x.orders(0), -1);
         Due.is("too long weighings", x.weighings(121), -1);
-        Due.is("too short weighings", x.weighings(-1), -1);
+        Due.is("too short weighings", x.weighings(0), -1);
+        Due.is("weighings below 0", x.weighings(-1), -1);
         Due.is("all of it stays", x.count(5), 260);
         Due.is("a fault uses the tape up", x.law(240), -1000);
         Due.is("empty", x.count(5), 0);

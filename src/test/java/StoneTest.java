@@ -42,6 +42,8 @@ public final class StoneTest {
         Due.is("n -1", x.stones(-1, false), -1);
         Due.is("the tape stays", x.count(5), 20);
         Due.is("eight", x.stones(8, true), 36);
+        Due.feed(x, 1);
+        Due.is("nothing of those before", x.stones(1, false), 1);
     }
 
     private static void fewestIs(int due, int weight, int... weights) {
@@ -53,6 +55,7 @@ public final class StoneTest {
 
     private static void fewest() {
         fewestIs(1, 5, 5);
+        fewestIs(2, 1, 5, 6);
         fewestIs(-2, 4, 5);
         fewestIs(2, 2, 1, 3, 9);
         fewestIs(3, 5, 1, 3, 9);

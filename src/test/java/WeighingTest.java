@@ -74,6 +74,9 @@ public final class WeighingTest {
         rank("a<b", 1, 1, 2);
         rank("a<b", 0, 0, 1);
         rank("a>b", 0, 2, 1);
+        rank("b>a;a>c", 1, 5, 2);
+        rank("b=a;a=c", 1, 0, 7);
+        rank("b>p;p>c", 1, 0x8004, 2);
         rank("a=b;b=c;p=c", 15, 0, 0x8007);
         rank("p>o;o>n;n>m", 15, 0x7000, 0x8000);
         rank("m<n;n<o;o<p", 15, 0x7000, 0x8000);
