@@ -157,6 +157,8 @@ public final class ChoiceTest {
     private static void liars() {
         RopeScale x = Due.walkers(10, 20, 30, 40);
         Due.is("none", x.liars(0) * 1000 + x.liars(1) * 10 + x.liars(2), -2);
+        Due.orders(x, "d?41");
+        Due.is("the least lie there can be", x.liars(0) * 100 + x.liars(1) * 10 + x.liars(2), 813);
         Due.orders(x, "b?25;c?25;d?41");
         Due.is("who", x.liars(0), 14);
         Due.is("the greatest", x.liars(1), 5);

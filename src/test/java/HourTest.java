@@ -37,6 +37,9 @@ public final class HourTest {
         value("[2+3]*4", 20);
         value("100/10/5", 2);
         value("100/[10/5]", 50);
+        value("7/1", 7);
+        value("7+7%1", 7);
+        value("7/7+6/7", 1);
         value("17%10*3", 21);
         value("3*17%10", 1);
         value("7-10+5", 2);

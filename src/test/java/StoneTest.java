@@ -57,6 +57,12 @@ public final class StoneTest {
         fewestIs(1, 5, 5);
         fewestIs(2, 1, 5, 6);
         fewestIs(-2, 4, 5);
+        // No stone is used twice, on either pan.
+        fewestIs(-2, 2, 3, 8);
+        fewestIs(-2, 2, 8, 3);
+        fewestIs(-2, 16, 8);
+        fewestIs(-2, 16, 8, 3);
+        fewestIs(3, 2, 3, 8, 3);
         fewestIs(2, 2, 1, 3, 9);
         fewestIs(3, 5, 1, 3, 9);
         fewestIs(2, 6, 1, 3, 9);
@@ -93,6 +99,13 @@ public final class StoneTest {
         seesawIs(0, 10, 50);
         seesawIs(1, 10, 51);
         seesawIs(5, 1, 10);
+        seesawIs(1, 7, 8);
+        seesawIs(1, 8, 7);
+        // Two at one place of one side would be more even.
+        seesawIs(13, 241, 59, 100);
+        seesawIs(8, 98, 53, 143);
+        seesawIs(85, 149, 6, 8);
+        seesawIs(14, 28, 202, 12);
         seesawIs(160, 10, 10, 250);
         seesawIs(0, 1, 1, 1, 1, 1);
         seesawIs(0, 255, 255, 255, 255, 255);

@@ -80,6 +80,9 @@ public final class WeighingTest {
         rank("a=b;b=c;p=c", 15, 0, 0x8007);
         rank("p>o;o>n;n>m", 15, 0x7000, 0x8000);
         rank("m<n;n<o;o<p", 15, 0x7000, 0x8000);
+        rank("a=b;a>c", 1, 4, 3);
+        rank("a=b;c>a", 2, 3, 4);
+        rank("o=p;p>n", 14, 0x2000, 0xC000);
         rank("a=b;c=d;b>c;d>e", 0, 4 + 8 + 16, 3);
         rank("b>c;d>e;c=d;a=b", 0, 4 + 8 + 16, 3);
         rank("b>c;d>e;c=d;a=b", 3, 16, 12);
