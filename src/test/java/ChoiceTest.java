@@ -148,6 +148,7 @@ public final class ChoiceTest {
         Due.is("none nearer, but chained", Due.walkers(1, 3, 5, 7).pairs(2), 2);
         Due.is("the middle ones alone", Due.walkers(1, 5, 7, 11).pairs(3), 1);
         Due.is("as heavy", Due.walkers(7, 7, 7, 7, 7).pairs(0), 2);
+        Due.is("the heavier one first", Due.walkers(9, 1).pairs(7) * 10 + Due.walkers(9, 1).pairs(8), 1);
         Due.is("one", Due.walkers(7).pairs(999), 0);
         Due.is("eight twos", Due.walkers(SIXTEEN).pairs(999), 8);
         Due.is("-1", x.pairs(-1), -1);
@@ -165,6 +166,8 @@ public final class ChoiceTest {
         Due.is("whose, the lowest", x.liars(2), 1);
         Due.orders(x, "d=999;d>");
         Due.is("by weight", x.liars(1) * 100 + x.liars(2), 95803);
+        Due.orders(x, "a?999");
+        Due.is("the first of them", x.liars(1) * 100 + x.liars(2), 98900);
         Due.is("what 3", x.liars(3), -1);
         Due.is("what -1", x.liars(-1), -1);
     }

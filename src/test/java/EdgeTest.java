@@ -31,6 +31,7 @@ public final class EdgeTest {
         weighings();
         shares();
         stonesAndRows();
+        theFirstBytesAlone();
         check();
         Due.end();
     }
@@ -586,6 +587,31 @@ public final class EdgeTest {
         Due.is("as heavy is not heavier", x.scales(2, 2, 0) * 10, 0);
         Due.feed(x, 0, 0);
         Due.is("weights of 0", x.scales(2, 3, 0), 0);
+    }
+
+    private static RopeScale fed(RopeScale x, int... bytes) {
+        Due.feed(x, bytes);
+        return x;
+    }
+
+    /** Neither what stands behind the first n bytes nor what an earlier call took counts. */
+    private static void theFirstBytesAlone() {
+        RopeScale x = new RopeScale();
+        Due.is("fewest of two", fed(x, 5, 3).fewest(2, 3), 1);
+        Due.is("fewest of one", fed(x, 5, 3).fewest(1, 3), -2);
+        Due.is("fewest of one on the other pan", fed(x, 5).fewest(1, 2), -2);
+        Due.is("stones of two", fed(x, 1, 2).stones(2, false), 3);
+        Due.is("stones of one", fed(x, 1, 2).stones(1, false), 1);
+        Due.is("stones of one on both pans", fed(x, 1, 2).stones(1, true), 1);
+        Due.is("seesaw of two", fed(x, 7, 7).seesaw(2), 0);
+        Due.is("seesaw of one", fed(x, 7, 7).seesaw(1), 7);
+        Due.is("a row of three", fed(x, 3, 2, 4).row(3, 0), 1);
+        Due.is("a row of one", fed(x, 3, 2, 4).row(1, 0), 0);
+        Due.is("side by side of two", fed(x, 3, 4, 5).row(2, 1), 2);
+        for (int what = 0; what < 2; what++) {
+            Due.is("scales of two, " + what, fed(x, 1, 9).scales(2, 3, what), what == 0 ? 2 : 10);
+            Due.is("scales of one, " + what, fed(x, 1, 9).scales(1, 3, what), 1);
+        }
     }
 
     private static void check() {
